@@ -1,34 +1,33 @@
-/** Counts answers that are not due; each test ends with end(). */
-final class Check {
-    interface Call {
-        Object answer();
-    }
+import java.util.NoSuchElementException;
+import java.util.function.Supplier;
+
+/** Counts answers that are not due; each test is below it and ends with end(). */
+abstract class Check {
+    static final Class<?> MISSING = NoSuchElementException.class;
+    static final Class<?> RANGE = IllegalArgumentException.class;
+    static final Class<?> KIND = UnsupportedOperationException.class;
+    static final Class<?> STATE = IllegalStateException.class;
+    static final Class<?> INDEX = IndexOutOfBoundsException.class;
+    static final Class<?> DIVISION = ArithmeticException.class;
+    static final int LEAST = Integer.MIN_VALUE;
+    static final int MOST = Integer.MAX_VALUE;
 
     private static int wrong = 0;
     private static int checked = 0;
 
-    private Check() {
+    static void same(String what, Object got, Object want) {
+        same(() -> what, got, want);
     }
 
-    static void same(String what, Object got, Object want) {
+    /** The text is only made for a wrong answer, and only the first ones are told. */
+    static void same(Supplier<String> what, Object got, Object want) {
         checked++;
         if (!want.equals(got)) {
             wrong++;
-            System.out.println(what + " answered " + got + ", due is " + want);
+            if (wrong <= 20) {
+                System.out.println(what.get() + " answered " + got + ", due is " + want);
+            }
         }
-    }
-
-    /** The call must throw just this class, by a throw statement of Statusboard, and change nothing. */
-    static void refuses(String what, Statusboard board, Class<?> due, Call call) {
-        String before = Snapshot.of(board);
-        String thrown = "nothing";
-        try {
-            call.answer();
-        } catch (RuntimeException e) {
-            thrown = e.getClass().getName();
-        }
-        same(what + " throws", thrown, due.getName());
-        same(what + " changes nothing", Snapshot.of(board), before);
     }
 
     static void end(String name) {

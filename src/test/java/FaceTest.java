@@ -11,7 +11,7 @@ import java.util.regex.Matcher;
 import java.util.regex.Pattern;
 
 /** The public face, line by line as the document lists it, and the rules of LANGUAGE.md that can be seen from the text. */
-public final class FaceTest {
+public final class FaceTest extends Check {
     private static String faceOf(Method method) {
         StringBuilder text = new StringBuilder("public ").append(method.getReturnType().getName()).append(' ').append(method.getName()).append('(');
         for (Class<?> type : method.getParameterTypes()) {
@@ -55,37 +55,37 @@ public final class FaceTest {
                 open.add(method.getName());
             }
         }
-        Check.same("the number of public methods", got.size(), 47);
-        Check.same("the public methods", got, due);
-        Check.same("the public constructors", Statusboard.class.getConstructors().length, 1);
-        Check.same("the constructors", Statusboard.class.getDeclaredConstructors().length, 1);
-        Check.same("the class is public and final", Statusboard.class.getModifiers(), Modifier.PUBLIC | Modifier.FINAL);
+        same("the number of public methods", got.size(), 47);
+        same("the public methods", got, due);
+        same("the public constructors", Statusboard.class.getConstructors().length, 1);
+        same("the constructors", Statusboard.class.getDeclaredConstructors().length, 1);
+        same("the class is public and final", Statusboard.class.getModifiers(), Modifier.PUBLIC | Modifier.FINAL);
         hidden(open);
     }
 
     private static void hidden(Set<String> open) {
         List<Class<?>> all = new ArrayList<>(List.of(Statusboard.class.getDeclaredClasses()));
         for (Class<?> inner : all) {
-            Check.same(inner + " is static", Modifier.isStatic(inner.getModifiers()), true);
-            Check.same(inner + " is private", Modifier.isPrivate(inner.getModifiers()), true);
+            same(inner + " is static", Modifier.isStatic(inner.getModifiers()), true);
+            same(inner + " is private", Modifier.isPrivate(inner.getModifiers()), true);
         }
         all.add(Statusboard.class);
-        Check.same("at most twelve classes", all.size() <= 12, true);
+        same("at most twelve classes", all.size() <= 12, true);
         for (Class<?> type : all) {
             for (Method method : type.getDeclaredMethods()) {
                 boolean outer = type == Statusboard.class && Modifier.isPublic(method.getModifiers());
-                Check.same(method + " bears no public name", outer || !open.contains(method.getName()), true);
-                Check.same(method + " is private", outer || type != Statusboard.class || Modifier.isPrivate(method.getModifiers()), true);
-                Check.same(method + " has few parameters", method.getParameterCount() <= 7, true);
+                same(method + " bears no public name", outer || !open.contains(method.getName()), true);
+                same(method + " is private", outer || type != Statusboard.class || Modifier.isPrivate(method.getModifiers()), true);
+                same(method + " has few parameters", method.getParameterCount() <= 7, true);
             }
             int fields = 0;
             for (Field field : type.getDeclaredFields()) {
                 int modifiers = field.getModifiers();
                 fields += Modifier.isStatic(modifiers) ? 0 : 1;
-                Check.same(field + " is final if static", Modifier.isFinal(modifiers) || !Modifier.isStatic(modifiers), true);
-                Check.same(field + " is private", type != Statusboard.class || Modifier.isPrivate(modifiers), true);
+                same(field + " is final if static", Modifier.isFinal(modifiers) || !Modifier.isStatic(modifiers), true);
+                same(field + " is private", type != Statusboard.class || Modifier.isPrivate(modifiers), true);
             }
-            Check.same(type + " has few fields", fields <= 20, true);
+            same(type + " has few fields", fields <= 20, true);
         }
     }
 
@@ -96,13 +96,13 @@ public final class FaceTest {
         for (int i = 0; i < lines.size(); i++) {
             String line = lines.get(i);
             String code = line.replaceAll("//.*|/\\*\\*.*", "");
-            Check.same("line " + (i + 1) + " holds no word that is ruled out", ruledOut.matcher(code).find(), false);
-            Check.same("line " + (i + 1) + " holds plain signs", line.chars().allMatch(sign -> sign >= 32 && sign < 127), true);
+            same("line " + (i + 1) + " holds no word that is ruled out", ruledOut.matcher(code).find(), false);
+            same("line " + (i + 1) + " holds plain signs", line.chars().allMatch(sign -> sign >= 32 && sign < 127), true);
             if (line.startsWith("import ")) {
                 imports.add(line);
             }
         }
-        Check.same("the imports", imports, new TreeSet<>(List.of("import java.util.Arrays;", "import java.util.NoSuchElementException;")));
+        same("the imports", imports, new TreeSet<>(List.of("import java.util.Arrays;", "import java.util.NoSuchElementException;")));
     }
 
     private static void lengths() throws Exception {
@@ -113,17 +113,17 @@ public final class FaceTest {
             Matcher found = head.matcher(lines.get(i));
             if (found.matches()) {
                 int length = lines.subList(i, lines.size()).indexOf(found.group(1) + "}") + 1;
-                Check.same("line " + (i + 1) + " begins a short method", length > 1 && length <= 60, true);
+                same("line " + (i + 1) + " begins a short method", length > 1 && length <= 60, true);
                 methods++;
             }
         }
-        Check.same("methods are found", methods > 60, true);
+        same("methods are found", methods > 60, true);
     }
 
     public static void main(String[] args) throws Exception {
         face();
         words();
         lengths();
-        Check.end("FaceTest");
+        end("FaceTest");
     }
 }

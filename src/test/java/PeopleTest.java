@@ -1,59 +1,96 @@
-import java.util.NoSuchElementException;
-
 /** Promises 4 to 6, 16 and 40: people and their subscriptions. */
-public final class PeopleTest {
-    private static final Class<?> NONE = NoSuchElementException.class;
-    private static final Class<?> STATE = IllegalStateException.class;
+public final class PeopleTest extends Check {
+    private static Page page(String words) {
+        Page page = new Page(words);
+        for (int c = 0; c < 12; c++) {
+            page.does("addComponent", c < 6 ? -1 : c - 6, 1, 'w');
+        }
+        return page;
+    }
 
-    private static void adding() {
-        Statusboard b = new Statusboard();
-        for (int least : new int[] {0, 4, -1, Integer.MAX_VALUE, Integer.MIN_VALUE}) {
-            Check.refuses("a least level out of range", b, IllegalArgumentException.class, () -> b.addPerson(least));
-        }
+    private static void atMostSix() {
+        Page page = new Page("At most 6 people have numbers from 0.");
         for (int p = 0; p < 6; p++) {
-            Check.same("addPerson", b.addPerson(p % 3 + 1), p);
-            Check.same("people", b.people(), p + 1);
-            Check.same("subscriptions of a new person", b.subscriptions(p), 0);
-            Check.same("mails to a new person", b.mailsTo(p), 0);
+            page.answers(p, "people").refuses(MISSING, "subscriptions", p).answers(p, "addPerson", p % 3 + 1).answers(0, "subscriptions", p);
         }
-        Check.refuses("a seventh person", b, STATE, () -> b.addPerson(1));
-        Check.refuses("a level out of range ahead of a full page", b, IllegalArgumentException.class, () -> b.addPerson(4));
-        Check.refuses("subscriptions of nobody", b, NONE, () -> b.subscriptions(6));
-        Check.refuses("subscriptions of a negative number", b, NONE, () -> b.subscriptions(-1));
+        page.answers(6, "people").refuses(STATE, "addPerson", 1).refuses(STATE, "addPerson", 3).answers(6, "people");
+        page.refuses(MISSING, "subscriptions", 6);
+    }
+
+    private static void leastLevels() {
+        Page page = new Page("A person has a least level from 1 to 3");
+        for (int least : new int[] {LEAST, LEAST + 1, -3, -1, 0, 4, 5, MOST - 1, MOST}) {
+            page.refuses(RANGE, "addPerson", least);
+        }
+        page.answers(0, "addPerson", 1).answers(1, "addPerson", 2).answers(2, "addPerson", 3);
+    }
+
+    private static void withoutSubscriptions() {
+        Page page = page("Adds a person without subscriptions.");
+        for (int p = 0; p < 6; p++) {
+            page.does("addPerson", 1).answers(0, "subscriptions", p).answers(0, "mailsTo", p).refuses(STATE, "unsubscribe", p, 0).refuses(STATE, "unsubscribe", p, 11);
+        }
+        page.does("report", 11, 3, 0).answers(0, "mails");
     }
 
     private static void subscribing() {
-        Statusboard b = new Statusboard();
+        Page page = page("Returns the number of components to which the person has subscribed.");
+        page.does("addPerson", 1).does("addPerson", 2);
         for (int c = 0; c < 12; c++) {
-            b.addComponent(-1, 1, 'w');
+            page.answers(c, "subscriptions", 1).answers(c + 1, "subscribe", 1, 11 - c).answers(0, "subscriptions", 0);
         }
-        b.addPerson(1);
-        b.addPerson(2);
+        page.answers(12, "subscriptions", 1);
         for (int c = 0; c < 12; c++) {
-            Check.same("subscribe", b.subscribe(1, 11 - c), c + 1);
+            page.answers(11 - c, "unsubscribe", 1, c).answers(11 - c, "subscriptions", 1);
         }
-        Check.same("subscriptions", b.subscriptions(1), 12);
-        Check.same("subscriptions of another one", b.subscriptions(0), 0);
-        Check.refuses("subscribing twice", b, STATE, () -> b.subscribe(1, 4));
-        Check.same("unsubscribe", b.unsubscribe(1, 4), 11);
-        Check.refuses("unsubscribing twice", b, STATE, () -> b.unsubscribe(1, 4));
-        Check.refuses("unsubscribing what another one reads", b, STATE, () -> b.unsubscribe(0, 5));
-        Check.same("subscribing again", b.subscribe(1, 4), 12);
-        Check.same("subscribing for another one", b.subscribe(0, 4), 1);
-        for (int c : new int[] {-1, 12, 36, Integer.MAX_VALUE, Integer.MIN_VALUE}) {
-            Check.refuses("subscribe to nothing", b, NONE, () -> b.subscribe(1, c));
-            Check.refuses("unsubscribe from nothing", b, NONE, () -> b.unsubscribe(1, c));
+        page.answers(1, "subscribe", 1, 11).answers(1, "subscribe", 0, 0).answers(1, "subscriptions", 1);
+    }
+
+    private static void subscribingTwice() {
+        Page page = page("Throws `IllegalStateException` if the person has subscribed to it");
+        page.does("addPerson", 1).does("addPerson", 1).does("subscribe", 0, 0).does("subscribe", 0, 11);
+        page.refuses(STATE, "subscribe", 0, 0).refuses(STATE, "subscribe", 0, 11);
+        page.answers(1, "subscribe", 1, 0).answers(2, "subscribe", 1, 11).answers(3, "subscribe", 0, 6).refuses(STATE, "subscribe", 0, 6);
+        page.answers(2, "unsubscribe", 0, 0).answers(3, "subscribe", 0, 0).refuses(STATE, "subscribe", 0, 0);
+    }
+
+    private static void unsubscribingTwice() {
+        Page page = page("Throws `IllegalStateException` if the person has not subscribed to it");
+        page.does("addPerson", 1).does("addPerson", 1).does("subscribe", 0, 0).does("subscribe", 0, 11);
+        page.refuses(STATE, "unsubscribe", 0, 1).refuses(STATE, "unsubscribe", 0, 10).refuses(STATE, "unsubscribe", 1, 0).refuses(STATE, "unsubscribe", 1, 11);
+        page.answers(1, "unsubscribe", 0, 0).refuses(STATE, "unsubscribe", 0, 0).answers(0, "unsubscribe", 0, 11).refuses(STATE, "unsubscribe", 0, 11);
+        // a subscription to a group is none to what is below it
+        page.does("subscribe", 1, 5).refuses(STATE, "unsubscribe", 1, 11).answers(2, "subscribe", 1, 11);
+    }
+
+    private static void noSuchPerson() {
+        Page page = page("Throws `NoSuchElementException` if there is no such person or no such component");
+        page.does("addPerson", 1).does("addPerson", 1).does("subscribe", 0, 0).does("subscribe", 1, 11);
+        for (int p : new int[] {LEAST, LEAST + 1, -2, -1, 2, 3, 5, 6, MOST - 1, MOST}) {
+            page.refuses(MISSING, "subscribe", p, 1).refuses(MISSING, "unsubscribe", p, 0);
         }
-        for (int p : new int[] {-1, 2, Integer.MAX_VALUE, Integer.MIN_VALUE}) {
-            Check.refuses("subscribe by nobody", b, NONE, () -> b.subscribe(p, 0));
-            Check.refuses("unsubscribe by nobody", b, NONE, () -> b.unsubscribe(p, 0));
-            Check.refuses("subscriptions", b, NONE, () -> b.subscriptions(p));
+        for (int c : new int[] {LEAST, LEAST + 1, -2, -1, 12, 13, 31, 32, 33, 43, MOST - 1, MOST}) {
+            page.refuses(MISSING, "subscribe", 0, c).refuses(MISSING, "unsubscribe", 0, c).refuses(MISSING, "unsubscribe", 1, c);
+        }
+    }
+
+    private static void noSuchPersonAsked() {
+        Page page = new Page("Throws `NoSuchElementException` if there is no such person");
+        page.does("addPerson", 1).does("addPerson", 1);
+        for (int p : new int[] {LEAST, LEAST + 1, -2, -1, 2, 3, 5, 6, MOST - 1, MOST}) {
+            page.refuses(MISSING, "subscriptions", p).refuses(MISSING, "mailsTo", p);
         }
     }
 
     public static void main(String[] args) {
-        adding();
+        atMostSix();
+        leastLevels();
+        withoutSubscriptions();
         subscribing();
-        Check.end("PeopleTest");
+        subscribingTwice();
+        unsubscribingTwice();
+        noSuchPerson();
+        noSuchPersonAsked();
+        end("PeopleTest");
     }
 }

@@ -1,7 +1,9 @@
 import java.lang.management.ManagementFactory;
 
 /** What a run makes stays small: all calls of one run live in one room, and only mails may take more of it. */
-public final class RoomTest {
+public final class RoomTest extends Check {
+    private static final int PAGES = 50;
+
     private static long made() {
         return ((com.sun.management.ThreadMXBean) ManagementFactory.getThreadMXBean()).getCurrentThreadAllocatedBytes();
     }
@@ -37,28 +39,42 @@ public final class RoomTest {
         return (int) sum;
     }
 
-    public static void main(String[] args) {
-        Statusboard b = fullPage();
-        ask(b);
+    private static void questions() {
+        Statusboard[] pages = new Statusboard[PAGES];
+        for (int i = 0; i < PAGES; i++) {
+            pages[i] = fullPage();
+        }
+        ask(fullPage());
         long before = made();
         int sum = 0;
-        for (int i = 0; i < 50; i++) {
-            sum += ask(b);
+        for (int i = 0; i < PAGES; i++) {
+            sum += ask(pages[i]);
         }
-        long asked = made() - before;
-        Check.same("questions make no objects: " + asked + " bytes", asked < 4096 && sum != 0, true);
+        long bytes = made() - before;
+        same("questions make no objects: " + bytes + " bytes", bytes < 4096 && sum != 0, true);
+    }
 
-        before = made();
+    private static void newPage() {
+        long before = made();
         Statusboard fresh = new Statusboard();
         long fields = (made() - before) / 4;
-        Check.same("a new page takes " + fields + " fields", fields < 1000 && fresh.minute() == 0, true);
+        same("a new page takes " + fields + " fields", fields < 1000 && fresh.minute() == 0, true);
+    }
 
-        before = made();
+    private static void mails() {
+        Statusboard b = fullPage();
+        long before = made();
         for (int i = 0; i < 440; i++) {
             b.correct(0, i % 3 + 1, 0);
         }
-        fields = (made() - before) / 4;
-        Check.same("mails take " + fields + " fields", fields < 60000, true);
-        Check.end("RoomTest");
+        long fields = (made() - before) / 4;
+        same("mails take " + fields + " fields", fields < 60000, true);
+    }
+
+    public static void main(String[] args) {
+        questions();
+        newPage();
+        mails();
+        end("RoomTest");
     }
 }

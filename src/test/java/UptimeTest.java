@@ -1,160 +1,271 @@
-import java.util.NoSuchElementException;
-
-/** Promises 28 to 30, 47 and 48: uptime by months, excused shares, means. */
-public final class UptimeTest {
-    private static final Class<?> NONE = NoSuchElementException.class;
-    private static final Class<?> RANGE = IllegalArgumentException.class;
-    private static final Class<?> STATE = IllegalStateException.class;
-    private static final Class<?> DIVISION = ArithmeticException.class;
-
-    private static void uptimes(Statusboard b, int component, int month, int due) {
-        Check.same("uptime " + component + " " + month, b.uptime(component, month), due);
-        Check.same("uptimeByMinutes " + component + " " + month, b.uptimeByMinutes(component, month), due);
+/** "Uptime", and promises 28 to 30, 47 and 48: uptime by months, excused shares, means. */
+public final class UptimeTest extends Check {
+    private static Page leaf(String words) {
+        return new Page(words).does("addComponent", -1, 1, 'w');
     }
 
-    private static void noUptime(Statusboard b, int component, int month) {
-        Check.same("counted " + component + " " + month, b.counted(component, month), 0);
-        Check.refuses("uptime", b, STATE, () -> b.uptime(component, month));
-        Check.refuses("uptimeByMinutes", b, STATE, () -> b.uptimeByMinutes(component, month));
+    /** The page some minutes later. */
+    private static Page later(Page page, int minutes) {
+        for (int left = minutes; left > 0; left -= 600) {
+            page.does("pass", Math.min(left, 600));
+        }
+        return page;
+    }
+
+    private static void uptimes(Page page, int component, int month, int due) {
+        page.answers(due, "uptime", component, month).answers(due, "uptimeByMinutes", component, month);
+    }
+
+    private static void noUptime(Page page, int component, int month) {
+        page.answers(0, "counted", component, month).refuses(STATE, "uptime", component, month).refuses(STATE, "uptimeByMinutes", component, month);
     }
 
     private static void readme() {
-        Statusboard b = new Statusboard();
-        int site = b.addComponent(-1, 1, 'w');
-        int shop = b.addComponent(site, 3, 's');
-        int reader = b.addPerson(1);
-        b.subscribe(reader, site);
-        b.pass(10);
-        int incident = b.report(shop, 2, 4);
-        Check.same("README's state", b.state(site), 'p');
-        Check.same("README's mail", b.mailComponent(0), site);
-        b.resolve(incident, 9);
-        uptimes(b, site, 0, 7500);
+        Statusboard board = new Statusboard();
+        int site = board.addComponent(-1, 1, 'w');
+        int shop = board.addComponent(site, 3, 's');
+        int reader = board.addPerson(1);
+        board.subscribe(reader, site);
+        board.pass(10);
+        int incident = board.report(shop, 2, 4);
+        same("README's state", board.state(site), 'p');
+        same("README's mail", board.mailComponent(0), site);
+        board.resolve(incident, 9);
+        same("README's uptime", board.uptime(site, 0), 7500);
     }
 
     private static void pastMinutes() {
-        Statusboard b = new Statusboard();
-        b.addComponent(-1, 1, 'w');
-        noUptime(b, 0, 0);
-        b.report(0, 3, 0);
-        noUptime(b, 0, 0);
-        b.pass(1);
-        Check.same("one past minute", b.counted(0, 0), 1);
-        uptimes(b, 0, 0, 0);
-        b.resolve(0, 1);
-        b.pass(2);
-        Check.same("three past minutes", b.counted(0, 0), 3);
-        uptimes(b, 0, 0, 6666);
-        b.correct(0, 1, 0);
-        uptimes(b, 0, 0, 9166);
-        b.pass(597);
-        Check.same("a whole month", b.counted(0, 0), 600);
-        noUptime(b, 0, 1);
-        b.pass(1);
-        Check.same("one minute of the next month", b.counted(0, 1), 1);
-        Check.same("the month before stays", b.counted(0, 0), 600);
-        uptimes(b, 0, 1, 10000);
-        uptimes(b, 0, 0, 9995);
-        noUptime(b, 0, 16);
+        Page page = leaf("The past minutes are those from 0 up to the one ahead of the present one.");
+        noUptime(page, 0, 0);
+        page.refuses(DIVISION, "excusedShare", 0).does("report", 0, 3, 0);
+        noUptime(page, 0, 0);
+        page.does("pass", 1).answers(1, "counted", 0, 0).answers(1, "caseMinutes", 0).answers(0.0f, "excusedShare", 0);
+        uptimes(page, 0, 0, 0);
+        page.does("resolve", 0, 1).does("pass", 1).answers(2, "counted", 0, 0);
+        uptimes(page, 0, 0, 5000);
+        // the present minute does not count
+        page.does("report", 0, 3, 2);
+        uptimes(page, 0, 0, 5000);
+        page.does("pass", 1).answers(3, "counted", 0, 0);
+        uptimes(page, 0, 0, 3333);
+    }
+
+    private static void lengthOfAMonth() {
+        Page page = later(leaf("A month has 600 minutes; the month 0 begins with the minute 0."), 599).answers(599, "counted", 0, 0);
+        noUptime(page, 0, 1);
+        page.does("pass", 1).answers(600, "counted", 0, 0);
+        noUptime(page, 0, 1);
+        page.does("pass", 1).answers(600, "counted", 0, 0).answers(1, "counted", 0, 1);
+        uptimes(page, 0, 1, 10000);
+        page.does("report", 0, 3, 600);
+        uptimes(page, 0, 0, 10000);
+        uptimes(page, 0, 1, 0);
+        page.does("resolve", 0, 601).does("correct", 0, 3, 599);
+        uptimes(page, 0, 0, 9983);
+        uptimes(page, 0, 1, 0);
+        page.does("pass", 598).answers(599, "counted", 0, 1).does("pass", 1).answers(600, "counted", 0, 1);
+        noUptime(page, 0, 2);
+        page.does("pass", 600).answers(600, "counted", 0, 1).answers(600, "counted", 0, 2).refuses(STATE, "uptime", 0, 3);
+        uptimes(page, 0, 1, 9983);
+    }
+
+    private static void months() {
+        Page page = leaf("`month`: the month, 0 to 16");
+        for (int month : new int[] {LEAST, LEAST + 1, -2, -1, 17, 18, MOST - 1, MOST}) {
+            page.refuses(RANGE, "counted", 0, month).refuses(RANGE, "uptime", 0, month).refuses(RANGE, "uptimeByMinutes", 0, month).refuses(RANGE, "meanUptime", month);
+        }
+        for (int month = 0; month <= 16; month++) {
+            noUptime(page, 0, month);
+            page.refuses(DIVISION, "meanUptime", month);
+        }
+        later(page, 9999);
+        for (int month = 0; month <= 16; month++) {
+            page.answers(month < 16 ? 600 : 399, "counted", 0, month).answers(10000.0, "meanUptime", month);
+            uptimes(page, 0, month, 10000);
+        }
+        // 600 times these is no int any more
+        for (int month : new int[] {LEAST, -7158279, -3579139, -2, -1, 17, 18, 3579140, 7158279, 7158280, 14316558, MOST}) {
+            page.refuses(RANGE, "counted", 0, month).refuses(RANGE, "uptime", 0, month).refuses(RANGE, "uptimeByMinutes", 0, month).refuses(RANGE, "meanUptime", month);
+        }
     }
 
     private static void overMonths() {
-        Statusboard b = new Statusboard();
-        b.addComponent(-1, 1, 'w');
-        for (int i = 0; i < 16; i++) {
-            b.pass(600);
-        }
-        b.pass(399);
-        b.report(0, 2, 599);
-        b.resolve(0, 1201);
-        b.report(0, 3, 9998);
-        uptimes(b, 0, 0, 9991);
-        uptimes(b, 0, 1, 5000);
-        uptimes(b, 0, 2, 9991);
-        uptimes(b, 0, 3, 10000);
-        Check.same("the last month", b.counted(0, 16), 399);
-        uptimes(b, 0, 16, 9974);
+        Page page = later(leaf("over these minutes, times 100, divided by their number and rounded down"), 9999);
+        page.does("report", 0, 2, 599).does("resolve", 0, 1201).does("report", 0, 3, 9998);
+        uptimes(page, 0, 0, 9991);
+        uptimes(page, 0, 1, 5000);
+        uptimes(page, 0, 2, 9991);
+        uptimes(page, 0, 3, 10000);
+        uptimes(page, 0, 15, 10000);
+        uptimes(page, 0, 16, 9974);
+        page.does("correct", 1, 3, 9999);
+        uptimes(page, 0, 16, 10000);
+        page.does("correct", 0, 3, 0);
+        uptimes(page, 0, 0, 0);
+        uptimes(page, 0, 2, 9983);
+    }
+
+    private static void fromAllToNothing() {
+        Page page = later(leaf("rounded down: 10000 if it was always up."), 3);
+        uptimes(page, 0, 0, 10000);
+        page.does("report", 0, 1, 0);
+        uptimes(page, 0, 0, 7500);
+        page.does("correct", 0, 2, 0);
+        uptimes(page, 0, 0, 5000);
+        page.does("correct", 0, 3, 0);
+        uptimes(page, 0, 0, 0);
+        page.does("correct", 0, 3, 1);
+        uptimes(page, 0, 0, 3333);
+        page.does("correct", 0, 3, 2);
+        uptimes(page, 0, 0, 6666);
+        page.does("correct", 0, 1, 2);
+        uptimes(page, 0, 0, 9166);
+        page.does("correct", 0, 1, 3);
+        uptimes(page, 0, 0, 10000);
+        later(page.does("resolve", 0, 3).does("correct", 0, 1, 2), 597);
+        uptimes(page, 0, 0, 9995);
     }
 
     private static void excusedMinutes() {
-        Statusboard b = new Statusboard();
-        b.addComponent(-1, 1, 'w');
-        b.addComponent(0, 1, 'w');
-        b.addComponent(0, 1, 'w');
-        b.maintain(1, 10, 20);
-        b.maintain(1, 15, 30);
-        b.maintain(2, 40, 700);
-        b.maintain(0, 590, 1200);
-        b.pass(50);
-        b.report(1, 3, 25);
-        Check.same("overlapping maintenance counts once", b.counted(1, 0), 30);
-        Check.same("a group is not excused by its children", b.counted(0, 0), 50);
-        Check.same("excused at its end", b.counted(2, 0), 40);
-        uptimes(b, 1, 0, 3333);
-        uptimes(b, 0, 0, 5000);
-        uptimes(b, 2, 0, 10000);
-        Check.same("the share of two", b.excusedShare(1), 0.4f);
-        Check.same("the share of none", b.excusedShare(0), 0.0f);
-        Check.same("the share of the end", b.excusedShare(2), 0.2f);
-        Check.same("the mean of three", b.meanUptime(0), 18333.0 / 3.0);
-        b.pass(600);
-        Check.same("all below are excused", b.counted(1, 0), 570);
-        noUptime(b, 0, 1);
-        noUptime(b, 2, 1);
-        Check.refuses("no uptimes", b, DIVISION, () -> b.meanUptime(1));
-        b.pass(600);
-        Check.same("behind the maintenance", b.counted(0, 2), 50);
-        Check.same("a share of months", b.excusedShare(0), 610.0f / 1250.0f);
-        Check.same("a share of both", b.excusedShare(2), 1160.0f / 1250.0f);
+        Page page = leaf("The counted minutes of a component in a month are the past minutes of it in which the component is not excused.");
+        page.does("addComponent", 0, 1, 'w').does("addComponent", 0, 1, 'w').does("maintain", 1, 10, 20).does("maintain", 1, 15, 30);
+        page.does("maintain", 2, 40, 700).does("maintain", 0, 590, 1200).does("pass", 10).answers(10, "counted", 1, 0).does("pass", 1).answers(10, "counted", 1, 0);
+        page.does("pass", 19).answers(10, "counted", 1, 0).does("pass", 1).answers(11, "counted", 1, 0).does("pass", 19).does("report", 1, 3, 25);
+        page.answers(30, "counted", 1, 0).answers(50, "counted", 0, 0).answers(40, "counted", 2, 0);
+        uptimes(page, 1, 0, 3333);
+        uptimes(page, 0, 0, 5000);
+        uptimes(page, 2, 0, 10000);
+        later(page, 600).answers(570, "counted", 1, 0).answers(590, "counted", 0, 0).answers(40, "counted", 2, 0);
+        for (int c = 0; c < 3; c++) {
+            noUptime(page, c, 1);
+        }
+        page.refuses(DIVISION, "meanUptime", 1);
+        later(page, 600).answers(50, "counted", 0, 2).answers(50, "counted", 2, 2).refuses(DIVISION, "meanUptime", 1);
+    }
+
+    private static void wholeMonthExcused() {
+        Page page = leaf("Throws `IllegalStateException` if there are no counted minutes").does("addComponent", -1, 1, 'w');
+        page.does("maintain", 0, 0, 600).does("maintain", 1, 1, 600);
+        later(page, 1);
+        noUptime(page, 0, 0);
+        page.answers(1, "counted", 1, 0);
+        later(page, 599);
+        noUptime(page, 0, 0);
+        uptimes(page, 1, 0, 10000);
+        later(page, 1).answers(1, "counted", 0, 1);
+        noUptime(page, 0, 0);
+        uptimes(page, 0, 1, 10000);
+        // a loss in an excused minute is none
+        page.does("report", 0, 3, 0).does("report", 1, 3, 1).does("resolve", 1, 600);
+        noUptime(page, 0, 0);
+        uptimes(page, 1, 0, 10000);
+        uptimes(page, 1, 1, 10000);
+        uptimes(page, 0, 1, 0);
+    }
+
+    private static void excusedByItsEdges() {
+        Page page = leaf("in which the component is not excused").does("maintain", 0, 4, 6).does("pass", 10).does("report", 0, 3, 3).does("resolve", 0, 4);
+        page.answers(8, "counted", 0, 0);
+        uptimes(page, 0, 0, 8750);
+        page.does("correct", 0, 3, 4).does("report", 0, 3, 4).does("resolve", 1, 6);
+        uptimes(page, 0, 0, 10000);
+        page.does("report", 0, 3, 4).does("resolve", 2, 7);
+        uptimes(page, 0, 0, 8750);
+        page.does("correct", 2, 3, 3);
+        uptimes(page, 0, 0, 7500);
+    }
+
+    private static void ofAGroup() {
+        Page page = new Page("Its uptime is the sum of 100 minus the loss of its state, over these minutes");
+        page.does("addComponent", -1, 1, 's').does("addComponent", 0, 1, 'w').does("addComponent", 0, 1, 'w').does("addComponent", 0, 1, 'w').does("pass", 10);
+        page.does("report", 1, 3, 0).does("resolve", 0, 6).does("report", 2, 3, 4).does("resolve", 1, 8).does("report", 3, 1, 4);
+        // 33 is 'd' with 25; from 4 on 75 is 'm'; from 6 on 41 is 'p'; from 8 on 8 is 'd'
+        uptimes(page, 0, 0, (4 * 75 + 2 * 0 + 2 * 50 + 2 * 75) * 100 / 10);
+        page.does("maintain", 1, 10, 20).does("pass", 1);
+        uptimes(page, 0, 0, (4 * 75 + 2 * 50 + 3 * 75) * 100 / 11);
+    }
+
+    private static void shares() {
+        Page page = leaf("their number divided by that of all past minutes, both converted to float.");
+        page.does("addComponent", 0, 1, 'w').does("addComponent", -1, 1, 'w').does("maintain", 0, 0, 1).does("maintain", 1, 0, 7).does("maintain", 1, 3, 8);
+        page.does("pass", 1).answers(1.0f, "excusedShare", 0).answers(1.0f, "excusedShare", 1).answers(0.0f, "excusedShare", 2);
+        page.does("pass", 1).answers(0.5f, "excusedShare", 0).answers(1.0f, "excusedShare", 1);
+        page.does("pass", 1).answers(1.0f / 3.0f, "excusedShare", 0).does("pass", 5).answers(0.125f, "excusedShare", 0).answers(1.0f, "excusedShare", 1);
+        page.does("pass", 1).answers(8.0f / 9.0f, "excusedShare", 1).answers(1.0f / 9.0f, "excusedShare", 0).answers(0.0f, "excusedShare", 2);
+    }
+
+    private static void sharesOfAllTime() {
+        Page page = leaf("Returns the share of the past minutes in which a component is excused").does("addComponent", -1, 1, 'w').does("addComponent", -1, 1, 'w');
+        page.does("maintain", 0, 0, 10000).does("maintain", 1, 9998, 10000).does("maintain", 2, 5, 6).does("callOff", 2);
+        later(page, 9998).answers(1.0f, "excusedShare", 0).answers(0.0f, "excusedShare", 1).answers(0.0f, "excusedShare", 2);
+        page.does("pass", 1).answers(1.0f, "excusedShare", 0).answers(1.0f / 9999.0f, "excusedShare", 1).answers(0.0f, "excusedShare", 2);
+    }
+
+    private static void noPastMinutes() {
+        Page page = leaf("Throws `ArithmeticException` if there are no past minutes").refuses(DIVISION, "excusedShare", 0);
+        page.does("maintain", 0, 0, 9).refuses(DIVISION, "excusedShare", 0).does("pass", 1).answers(1.0f, "excusedShare", 0);
     }
 
     private static void means() {
-        Statusboard b = new Statusboard();
-        Check.refuses("no components", b, DIVISION, () -> b.meanUptime(0));
-        b.addComponent(-1, 1, 'w');
-        b.addComponent(-1, 1, 'w');
-        b.addComponent(-1, 1, 'w');
-        b.maintain(2, 0, 7);
-        Check.refuses("no past minutes", b, DIVISION, () -> b.meanUptime(0));
-        Check.refuses("no past minutes for a share", b, DIVISION, () -> b.excusedShare(2));
-        b.pass(7);
-        b.report(0, 1, 5);
-        Check.same("the mean of two", b.meanUptime(0), 19285.0 / 2.0);
-        Check.same("all minutes excused", b.excusedShare(2), 1.0f);
-        b.pass(1);
-        Check.same("the mean of three", b.meanUptime(0), (9062.0 + 10000.0 + 10000.0) / 3.0);
-        Check.same("seven of eight", b.excusedShare(2), 0.875f);
-        b.pass(1);
-        Check.same("a share that is rounded", b.excusedShare(2), 7.0f / 9.0f);
+        Page page = leaf("the sum of the uptimes divided by their number, both converted to double.");
+        page.does("addComponent", -1, 1, 'w').does("addComponent", -1, 1, 'w').does("maintain", 2, 0, 7).does("pass", 7).answers(10000.0, "meanUptime", 0);
+        page.does("report", 0, 1, 5).answers(9642.5, "meanUptime", 0).does("pass", 1).answers((9062.0 + 10000.0 + 10000.0) / 3.0, "meanUptime", 0);
+        page.does("report", 1, 3, 0).answers((9062.0 + 0.0 + 10000.0) / 3.0, "meanUptime", 0).does("report", 2, 3, 0).answers(9062.0 / 3.0, "meanUptime", 0);
+        page.does("correct", 0, 3, 0).answers(0.0, "meanUptime", 0);
     }
 
-    private static void wrongArguments() {
-        Statusboard b = new Statusboard();
-        b.addComponent(-1, 1, 'w');
-        for (int pass = 0; pass < 2; pass++) {
-            for (int month : new int[] {-1, 17, Integer.MAX_VALUE, Integer.MIN_VALUE}) {
-                Check.refuses("counted", b, RANGE, () -> b.counted(0, month));
-                Check.refuses("uptime", b, RANGE, () -> b.uptime(0, month));
-                Check.refuses("uptimeByMinutes", b, RANGE, () -> b.uptimeByMinutes(0, month));
-                Check.refuses("meanUptime", b, RANGE, () -> b.meanUptime(month));
+    private static void meansOfGroups() {
+        Page page = leaf("Returns the mean uptime in a month of all components that have counted minutes in it").does("addComponent", 0, 1, 'w').does("addComponent", 0, 1, 's');
+        page.does("pass", 4).does("report", 2, 2, 3).answers((8750.0 + 10000.0 + 8750.0) / 3.0, "meanUptime", 0);
+        // an uptime of 0 is one, no counted minutes are none
+        page.does("correct", 0, 3, 0).answers(10000.0 / 3.0, "meanUptime", 0).does("maintain", 1, 4, 700);
+        later(page, 597).answers(1, "counted", 0, 1).answers(0.0, "meanUptime", 1);
+        noUptime(page, 1, 1);
+    }
+
+    private static void meanOfTwelve() {
+        Page page = new Page("of all components that have counted minutes in it");
+        for (int c = 0; c < 12; c++) {
+            page.does("addComponent", -1, 1, 'w');
+        }
+        page.does("pass", 3).does("report", 11, 3, 0).answers(110000.0 / 12.0, "meanUptime", 0).does("report", 0, 1, 2).answers(109166.0 / 12.0, "meanUptime", 0);
+    }
+
+    private static void noMean() {
+        Page page = new Page("Throws `ArithmeticException` if there are none").refuses(DIVISION, "meanUptime", 0).does("pass", 600).refuses(DIVISION, "meanUptime", 0);
+        page.does("addComponent", -1, 1, 'w').answers(10000.0, "meanUptime", 0).refuses(DIVISION, "meanUptime", 1).refuses(DIVISION, "meanUptime", 16);
+        page.does("maintain", 0, 600, 601).does("pass", 1).refuses(DIVISION, "meanUptime", 1).does("pass", 1).answers(10000.0, "meanUptime", 1);
+    }
+
+    private static void noSuchComponent() {
+        Page page = leaf("Throws `NoSuchElementException` if there is no such component").does("addComponent", -1, 1, 'w').does("pass", 5);
+        for (int c : new int[] {LEAST, LEAST + 1, -2, -1, 2, 3, 11, 12, 32, MOST - 1, MOST}) {
+            page.refuses(MISSING, "excusedShare", c);
+            for (String name : new String[] {"counted", "uptime", "uptimeByMinutes"}) {
+                page.refuses(MISSING, name, c, 0).refuses(MISSING, name, c, 16).refuses(MISSING, name, c, 17).refuses(MISSING, name, c, -1);
             }
-            for (int c : new int[] {-1, 1, Integer.MAX_VALUE, Integer.MIN_VALUE}) {
-                Check.refuses("counted", b, NONE, () -> b.counted(c, 17));
-                Check.refuses("uptime", b, NONE, () -> b.uptime(c, 17));
-                Check.refuses("uptimeByMinutes", b, NONE, () -> b.uptimeByMinutes(c, 17));
-                Check.refuses("excusedShare", b, NONE, () -> b.excusedShare(c));
-            }
-            b.pass(5);
         }
     }
 
     public static void main(String[] args) {
         readme();
         pastMinutes();
+        lengthOfAMonth();
+        months();
         overMonths();
+        fromAllToNothing();
         excusedMinutes();
+        wholeMonthExcused();
+        excusedByItsEdges();
+        ofAGroup();
+        shares();
+        sharesOfAllTime();
+        noPastMinutes();
         means();
-        wrongArguments();
-        Check.end("UptimeTest");
+        meansOfGroups();
+        meanOfTwelve();
+        noMean();
+        noSuchComponent();
+        end("UptimeTest");
     }
 }
