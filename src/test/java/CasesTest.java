@@ -1,7 +1,7 @@
 /** Promises 11 and 37 to 39: cases, which incidents make up. */
 public final class CasesTest extends Check {
     /** Two leaves in the minute 10. */
-    private static Page page(String words) {
+    private static Page page(String... words) {
         return new Page(words).does("addComponent", -1, 1, 'w').does("addComponent", -1, 1, 'w').does("pass", 10);
     }
 

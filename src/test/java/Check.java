@@ -12,8 +12,29 @@ abstract class Check {
     static final int LEAST = Integer.MIN_VALUE;
     static final int MOST = Integer.MAX_VALUE;
 
+    private static final int MOST_SECONDS = 300;
+
     private static int wrong = 0;
     private static int checked = 0;
+
+    static {
+        watch();
+    }
+
+    /** A call that does not end is a wrong one, too. */
+    private static void watch() {
+        Thread watch = new Thread(() -> {
+            try {
+                Thread.sleep(1000L * MOST_SECONDS);
+            } catch (InterruptedException e) {
+                return;
+            }
+            System.out.println("a call does not end");
+            Runtime.getRuntime().halt(1);
+        });
+        watch.setDaemon(true);
+        watch.start();
+    }
 
     static void same(String what, Object got, Object want) {
         same(() -> what, got, want);

@@ -1,7 +1,7 @@
 /** "Components", and promises 2, 3, 15 and 19 to 23: the tree of components. */
 public final class ComponentsTest extends Check {
     /** 0 over 1 and 2, 1 over 3 and 5, 2 over 4, and 6 alone. */
-    private static Page tree(String words) {
+    private static Page tree(String... words) {
         Page page = new Page(words);
         int[] parents = {-1, 0, 0, 1, 2, 1, -1};
         for (int c = 0; c < parents.length; c++) {
@@ -11,7 +11,7 @@ public final class ComponentsTest extends Check {
     }
 
     /** Each component below the one ahead of it. */
-    private static Page chain(String words) {
+    private static Page chain(String... words) {
         Page page = new Page(words);
         for (int c = 0; c < 12; c++) {
             page.answers(c, "addComponent", c - 1, 1, 'w');
@@ -20,7 +20,7 @@ public final class ComponentsTest extends Check {
     }
 
     /** All components below the first one. */
-    private static Page star(String words) {
+    private static Page star(String... words) {
         Page page = new Page(words);
         for (int c = 0; c < 12; c++) {
             page.answers(c, "addComponent", c == 0 ? -1 : 0, 1, 's');
@@ -52,7 +52,7 @@ public final class ComponentsTest extends Check {
     }
 
     private static void noParent() {
-        Page page = new Page("`parent`: the parent, or -1 for none");
+        Page page = new Page("`parent`: the parent, or -1 for none", "Throws `NoSuchElementException` if the parent is not -1, and there is no such component");
         page.does("addComponent", -1, 1, 'w').does("addComponent", -1, 1, 'w').answers(0, "depth", 0).answers(0, "depth", 1);
         for (int parent : new int[] {LEAST, LEAST + 1, -3, -2, 2, 3, 12, MOST - 1, MOST}) {
             page.refuses(MISSING, "addComponent", parent, 1, 'w');
@@ -61,7 +61,7 @@ public final class ComponentsTest extends Check {
     }
 
     private static void weightsOfNewOnes() {
-        Page page = new Page("a weight from 1 to 9");
+        Page page = new Page("a weight from 1 to 9", "Throws `IllegalArgumentException` if the weight or the rule is out of range");
         for (int weight : new int[] {LEAST, LEAST + 1, -9, -1, 0, 10, 11, MOST - 1, MOST}) {
             page.refuses(RANGE, "addComponent", -1, weight, 'w').refuses(RANGE, "addComponent", -1, weight, 's');
         }
@@ -72,7 +72,7 @@ public final class ComponentsTest extends Check {
     }
 
     private static void rules() {
-        Page page = new Page("and a rule, 'w' or 's'.");
+        Page page = new Page("and a rule, 'w' or 's'.", "Throws `IllegalArgumentException` if the weight or the rule is out of range");
         for (int rule : new int[] {0, 1, 'r', 't', 'v', 'x', 'W', 'S', 'w' - 32 * 3, 127, 255, 'w' + 256, 's' + 256, 'w' + 32768, 's' + 65280, 65535}) {
             page.refuses(RANGE, "addComponent", -1, 1, (char) rule);
         }
@@ -105,7 +105,7 @@ public final class ComponentsTest extends Check {
     }
 
     private static void settingWeights() {
-        Page page = new Page("Throws `IllegalArgumentException` if the weight is out of range");
+        Page page = new Page("Throws `IllegalArgumentException` if the weight is out of range", "Returns the weight before.");
         page.does("addComponent", -1, 5, 's').does("addComponent", 0, 6, 'w');
         for (int weight : new int[] {LEAST, LEAST + 1, -9, -1, 0, 10, 11, MOST - 1, MOST}) {
             page.refuses(RANGE, "setWeight", 0, weight).refuses(RANGE, "setWeight", 1, weight);
@@ -189,7 +189,7 @@ public final class ComponentsTest extends Check {
     }
 
     private static void pathAt() {
-        Page page = tree("`index`: the index, 0 for the component without a parent");
+        Page page = tree("`index`: the index, 0 for the component without a parent", "which is the component itself for its depth.");
         int[][] due = {{0}, {0, 1}, {0, 2}, {0, 1, 3}, {0, 2, 4}, {0, 1, 5}, {6}};
         for (int c = 0; c < 7; c++) {
             for (int i = 0; i < due[c].length; i++) {

@@ -3,7 +3,7 @@ public final class IncidentsTest extends Check {
     private static final int[] FAR = {LEAST, LEAST + 1, MOST - 1, MOST};
 
     /** 0 over 1 and 2, in the minute 10. */
-    private static Page page(String words) {
+    private static Page page(String... words) {
         Page page = new Page(words);
         page.does("addComponent", -1, 1, 'w').does("addComponent", 0, 2, 'w').does("addComponent", 0, 3, 'w');
         return page.does("pass", 10);
@@ -35,7 +35,7 @@ public final class IncidentsTest extends Check {
     }
 
     private static void levels() {
-        Page page = page("`level`: the level, 1 to 3");
+        Page page = page("`level`: the level, 1 to 3", "Throws `IllegalArgumentException` if the level or the start is out of range", "Returns the level before.");
         for (int level : new int[] {LEAST, LEAST + 1, -3, -1, 0, 4, 5, MOST - 1, MOST}) {
             page.refuses(RANGE, "report", 1, level, 0).refuses(RANGE, "report", 2, level, 10);
         }
@@ -48,7 +48,7 @@ public final class IncidentsTest extends Check {
     }
 
     private static void startOfAReport() {
-        Page page = page("`start`: the start, 0 to the present minute");
+        Page page = page("`start`: the start, 0 to the present minute", "Throws `IllegalArgumentException` if the level or the start is out of range");
         page.refuses(RANGE, "report", 1, 1, -1).refuses(RANGE, "report", 1, 1, 11).refuses(RANGE, "report", 1, 1, 9999);
         page.answers(0, "report", 1, 1, 0).answers(1, "report", 1, 1, 10).answers(0, "startOf", 0).answers(10, "startOf", 1);
         for (int start : FAR) {
@@ -84,7 +84,7 @@ public final class IncidentsTest extends Check {
     }
 
     private static void endOfOne() {
-        Page page = page("`end`: its end, from its start to the present minute");
+        Page page = page("`end`: its end, from its start to the present minute", "Throws `IllegalArgumentException` if the end is out of range");
         page.does("report", 1, 2, 4);
         for (int end : new int[] {LEAST, LEAST + 1, -1, 0, 3, 11, 12, 9999, MOST - 1, MOST}) {
             page.refuses(RANGE, "resolve", 0, end);
@@ -116,7 +116,7 @@ public final class IncidentsTest extends Check {
     }
 
     private static void startOfAnOpenOne() {
-        Page page = page("`start`: the start, 0 to its end if it is resolved, otherwise to the present minute");
+        Page page = page("`start`: the start, 0 to its end if it is resolved, otherwise to the present minute", "Throws `IllegalArgumentException` if the level or the start is out of range");
         page.does("report", 1, 2, 4);
         page.refuses(RANGE, "correct", 0, 1, -1).refuses(RANGE, "correct", 0, 1, 11).refuses(RANGE, "correct", 0, 2, 9999);
         for (int start : FAR) {
@@ -128,7 +128,7 @@ public final class IncidentsTest extends Check {
     }
 
     private static void startOfAResolvedOne() {
-        Page page = page("`start`: the start, 0 to its end if it is resolved, otherwise to the present minute");
+        Page page = page("`start`: the start, 0 to its end if it is resolved, otherwise to the present minute", "Throws `IllegalArgumentException` if the level or the start is out of range");
         page.does("report", 1, 2, 4).does("resolve", 0, 6).refuses(RANGE, "correct", 0, 1, -1).refuses(RANGE, "correct", 0, 1, 7).refuses(RANGE, "correct", 0, 1, 10);
         for (int start : FAR) {
             page.refuses(RANGE, "correct", 0, 1, start);

@@ -1,7 +1,7 @@
 /** "Subscribers", and promises 41 to 46: who is told of what by promises 7 to 10. */
 public final class MailsTest extends Check {
     /** 0 over 1 and 2, 1 over 3 and 4, and 5 alone, in the minute 10. */
-    private static Page page(String words) {
+    private static Page page(String... words) {
         Page page = new Page(words);
         for (int parent : new int[] {-1, 0, 0, 1, 1, -1}) {
             page.does("addComponent", parent, 1, 'w');
@@ -89,7 +89,7 @@ public final class MailsTest extends Check {
     }
 
     private static void atMostOne() {
-        Page page = page("gets at most one mail");
+        Page page = page("gets at most one mail", "Nobody is told of the same change twice.");
         person(page, 0, 1, 0, 1, 2, 3, 4, 5);
         last(page.does("report", 3, 1, 10), 0, 0, 0, 'd', 10);
         last(page.does("report", 4, 2, 10), 1, 0, 0, 'p', 10);
@@ -244,6 +244,7 @@ public final class MailsTest extends Check {
         page.does("correct", 0, 1, 0).does("unsubscribe", 0, 5).does("withdraw", 0).does("pass", 1);
         tells(page, 0, 0, 5, 'm', 10);
         last(page, 1, 0, 5, 'd', 610);
+        page.answers(2, "mailsTo", 0).does("subscribe", 0, 4).answers(2, "mailsTo", 0);
     }
 
     private static void firstAndLastMinute() {

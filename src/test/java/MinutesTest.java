@@ -3,7 +3,7 @@ public final class MinutesTest extends Check {
     private static final int[] FAR = {LEAST, LEAST + 1, MOST - 1, MOST};
 
     /** 0 over 1 and 4, 1 over 2, and 3 alone, in the minute 10. */
-    private static Page page(String words) {
+    private static Page page(String... words) {
         Page page = new Page(words);
         for (int parent : new int[] {-1, 0, 1, -1, 0}) {
             page.does("addComponent", parent, 1, 'w');
@@ -12,7 +12,7 @@ public final class MinutesTest extends Check {
     }
 
     /** The same page in its last minute. */
-    private static Page lastMinute(String words) {
+    private static Page lastMinute(String... words) {
         Page page = page(words);
         for (int i = 0; i < 16; i++) {
             page.does("pass", 600);
@@ -25,7 +25,7 @@ public final class MinutesTest extends Check {
     }
 
     private static void minutesToPass() {
-        Page page = new Page("`minutes`: the number of minutes, 1 to 600");
+        Page page = new Page("`minutes`: the number of minutes, 1 to 600", "Throws `IllegalArgumentException` if the number is out of range", "Returns the present minute after the call.");
         for (int minutes : new int[] {LEAST, LEAST + 1, -600, -1, 0, 601, 602, 10000, MOST - 1, MOST}) {
             page.refuses(RANGE, "pass", minutes);
         }
@@ -43,7 +43,7 @@ public final class MinutesTest extends Check {
     }
 
     private static void firstMinuteOfMaintenance() {
-        Page page = page("`from`: the first minute, not before the present one, up to 9999");
+        Page page = page("`from`: the first minute, not before the present one, up to 9999", "Throws `IllegalArgumentException` if the first minute is out of range, or the other one is not greater or out of range");
         for (int from : new int[] {-1, 0, 8, 9, 10000, 10001}) {
             page.refuses(RANGE, "maintain", 0, from, 10000).refuses(RANGE, "maintain", 0, from, from + 1);
         }
@@ -56,7 +56,7 @@ public final class MinutesTest extends Check {
     }
 
     private static void endOfMaintenance() {
-        Page page = page("`to`: the minute behind its last one, up to 10000");
+        Page page = page("`to`: the minute behind its last one, up to 10000", "Throws `IllegalArgumentException` if the first minute is out of range, or the other one is not greater or out of range");
         for (int to : new int[] {-1, 0, 10, 49, 50, 10001, 10002}) {
             page.refuses(RANGE, "maintain", 0, 50, to);
         }
@@ -131,7 +131,7 @@ public final class MinutesTest extends Check {
     }
 
     private static void minuteOfAnExcuse() {
-        Page page = page("`minute`: the minute, 0 to 9999");
+        Page page = page("`minute`: the minute, 0 to 9999", "Throws `IllegalArgumentException` if the minute is out of range");
         page.answers(false, "isExcused", 0, 0).answers(false, "isExcused", 0, 9999).does("maintain", 0, 10, 10000).answers(true, "isExcused", 0, 9999);
         for (int c = 0; c < 5; c++) {
             for (int minute : new int[] {LEAST, LEAST + 1, -2, -1, 10000, 10001, MOST - 1, MOST}) {
@@ -142,7 +142,7 @@ public final class MinutesTest extends Check {
     }
 
     private static void callingOff() {
-        Page page = page("Calls maintenance off: it has no minutes any more.");
+        Page page = page("Calls maintenance off: it has no minutes any more.", "Returns the number of minutes that it had.");
         page.does("maintain", 0, 10, 40).does("maintain", 0, 12, 15).does("maintain", 0, 20, 10000).answers(30, "callOff", 0);
         page.answers(false, "isExcused", 0, 10).answers(false, "isExcused", 2, 11).answers(true, "isExcused", 2, 12).answers(false, "isExcused", 2, 15).answers(true, "isExcused", 2, 20);
         page.answers(9980, "callOff", 2).answers(false, "isExcused", 0, 20).answers(false, "isExcused", 0, 9999).answers(3, "callOff", 1).answers(false, "isExcused", 0, 12);

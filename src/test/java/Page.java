@@ -19,9 +19,11 @@ final class Page {
     private String fingerprint = "";
 
     /** A new page for the test of these words, which must stand in the document. */
-    Page(String words) {
-        this.words = words;
-        Check.same("the document's words \"" + words + "\"", DOCUMENT.contains(words), true);
+    Page(String... sentences) {
+        words = String.join("\", \"", sentences);
+        for (String sentence : sentences) {
+            Check.same("the document's words \"" + sentence + "\"", DOCUMENT.contains(sentence), true);
+        }
     }
 
     private static String document() {
@@ -32,9 +34,13 @@ final class Page {
         }
     }
 
+    private Page(Page other) {
+        words = other.words;
+    }
+
     /** Another page behind the same calls. */
     Page copy() {
-        Page copy = new Page(words);
+        Page copy = new Page(this);
         copy.changes.addAll(changes);
         copy.used = MOST_CALLS;
         return copy;

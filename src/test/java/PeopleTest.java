@@ -1,6 +1,6 @@
 /** Promises 4 to 6, 16 and 40: people and their subscriptions. */
 public final class PeopleTest extends Check {
-    private static Page page(String words) {
+    private static Page page(String... words) {
         Page page = new Page(words);
         for (int c = 0; c < 12; c++) {
             page.does("addComponent", c < 6 ? -1 : c - 6, 1, 'w');
@@ -9,20 +9,23 @@ public final class PeopleTest extends Check {
     }
 
     private static void atMostSix() {
-        Page page = new Page("At most 6 people have numbers from 0.");
+        Page page = page("At most 6 people have numbers from 0.", "Throws `IllegalStateException` if there are 6 people");
         for (int p = 0; p < 6; p++) {
-            page.answers(p, "people").refuses(MISSING, "subscriptions", p).answers(p, "addPerson", p % 3 + 1).answers(0, "subscriptions", p);
+            page.answers(p, "people").refuses(MISSING, "subscribe", p, 11).answers(p, "addPerson", p % 3 + 1).answers(0, "subscriptions", p).answers(1, "subscribe", p, 11);
         }
         page.answers(6, "people").refuses(STATE, "addPerson", 1).refuses(STATE, "addPerson", 3).answers(6, "people");
         page.refuses(MISSING, "subscriptions", 6);
+        new Page("At most 6 people have numbers from 0.").answers(0, "people").answers(0, "addPerson", 3).answers(1, "people").answers(1, "addPerson", 3);
     }
 
     private static void leastLevels() {
-        Page page = new Page("A person has a least level from 1 to 3");
+        Page page = new Page("A person has a least level from 1 to 3", "Throws `IllegalArgumentException` if the level is out of range");
         for (int least : new int[] {LEAST, LEAST + 1, -3, -1, 0, 4, 5, MOST - 1, MOST}) {
             page.refuses(RANGE, "addPerson", least);
         }
-        page.answers(0, "addPerson", 1).answers(1, "addPerson", 2).answers(2, "addPerson", 3);
+        page.answers(0, "addPerson", 1).answers(1, "addPerson", 2).answers(2, "addPerson", 3).does("addComponent", -1, 1, 'w');
+        page.does("subscribe", 0, 0).does("subscribe", 1, 0).does("subscribe", 2, 0).does("report", 0, 1, 0).answers(1, "mails");
+        page.does("correct", 0, 2, 0).answers(3, "mails").does("correct", 0, 3, 0).answers(6, "mails");
     }
 
     private static void withoutSubscriptions() {

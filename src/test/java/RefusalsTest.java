@@ -42,13 +42,13 @@ public final class RefusalsTest extends Check {
             page.does("addComponent", c < 9 ? 0 : c - 1, 1, 'w');
         }
         for (int p = 3; p < 6; p++) {
-            page.does("addPerson", 1);
+            page.does("addPerson", 2).does("subscribe", p, 2);
         }
         for (int i = 4; i < 20; i++) {
             page.does("report", i % 3 + 5, i % 3 + 1, i % 11);
         }
         for (int m = 4; m < 8; m++) {
-            page.does("maintain", m, 9990 + m, 10000);
+            page.does("maintain", m, 9990 + m, m < 7 ? 10000 : 9999);
         }
         for (int i = 0; i < 16; i++) {
             page.does("pass", 600);
@@ -135,6 +135,12 @@ public final class RefusalsTest extends Check {
 
     private static void minutes() {
         new Refusals(page(), "pass", RANGE, STATE).good(1, 600).bad(RANGE, LEAST, -1, 0, 601, MOST).check();
+        Page late = page();
+        for (int i = 0; i < 16; i++) {
+            late.does("pass", 600);
+        }
+        late.does("pass", 380);
+        new Refusals(late, "pass", RANGE, STATE).good(1, 9).bad(STATE, 10, 11, 600).bad(RANGE, LEAST, -1, 0, 601, MOST).check();
         new Refusals(fullPage(), "pass", RANGE, STATE).good(1, 600).bad(RANGE, LEAST, -1, 0, 601, MOST).check(STATE);
         new Refusals(page(), "maintain", MISSING, RANGE, STATE)
             .good(0, 4).bad(MISSING, missing(5))

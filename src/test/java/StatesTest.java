@@ -1,6 +1,6 @@
 /** "States", and promises 24, 25, 27 and 31: states, their rules, and the worst leaf. */
 public final class StatesTest extends Check {
-    private static Page leaf(String words) {
+    private static Page leaf(String... words) {
         return new Page(words).does("addComponent", -1, 1, 's');
     }
 
@@ -152,7 +152,8 @@ public final class StatesTest extends Check {
     }
 
     private static void weightedLoss() {
-        Page page = new Page("Returns the loss of a group by the rule 's' in the present minute, whatever its rule is.");
+        Page page = new Page("Returns the loss of a group by the rule 's' in the present minute, whatever its rule is.",
+            "Returns the sum of the losses of its children times their weights, divided by the sum of the weights, rounded down.");
         page.does("addComponent", -1, 1, 'w').does("addComponent", 0, 2, 'w').does("addComponent", 0, 1, 'w').does("pass", 8).answers(0, "weightedLoss", 0);
         page.does("report", 1, 3, 4).answers(66, "weightedLoss", 0).answers('m', "state", 0).does("resolve", 0, 8).answers(0, "weightedLoss", 0);
         page.answers('m', "stateAt", 0, 7).answers(0, "weightedLoss", 0).does("report", 2, 2, 8).answers(16, "weightedLoss", 0).does("setWeight", 2, 9).answers(40, "weightedLoss", 0);
@@ -166,7 +167,7 @@ public final class StatesTest extends Check {
     }
 
     private static void minuteOfAState() {
-        Page page = leaf("`minute`: the minute, 0 to the present one").does("report", 0, 3, 0).answers('m', "stateAt", 0, 0).refuses(RANGE, "stateAt", 0, 1);
+        Page page = leaf("`minute`: the minute, 0 to the present one", "Throws `IllegalArgumentException` if the minute is out of range").does("report", 0, 3, 0).answers('m', "stateAt", 0, 0).refuses(RANGE, "stateAt", 0, 1);
         page.does("pass", 20).answers('m', "stateAt", 0, 0).answers('m', "stateAt", 0, 20);
         for (int minute : new int[] {LEAST, LEAST + 1, -2, -1, 21, 22, 9999, 10000, MOST - 1, MOST}) {
             page.refuses(RANGE, "stateAt", 0, minute);
@@ -187,7 +188,8 @@ public final class StatesTest extends Check {
     private static void presentMinute() {
         Page page = new Page("Returns the state of a component in the present minute.");
         page.does("addComponent", -1, 1, 'w').does("addComponent", -1, 1, 's').does("addComponent", 1, 9, 'w').does("pass", 8);
-        page.does("report", 0, 1, 5).does("report", 2, 3, 4).does("resolve", 1, 8).answers('m', "stateAt", 2, 4).answers('u', "state", 2).answers(0, "worst");
+        page.does("report", 0, 1, 5).does("report", 2, 3, 4).does("resolve", 1, 8).answers('m', "stateAt", 2, 4).answers('u', "state", 2);
+        page.answers('m', "stateAt", 2, 4).answers(0, "worst").answers(5000, "uptime", 2, 0).answers(0, "worst").answers('m', "stateAt", 2, 7).answers('d', "state", 0);
         page.answers('m', "stateAt", 1, 7).answers(0, "weightedLoss", 1).answers('m', "stateAt", 1, 7).answers('u', "state", 1);
         page.does("report", 2, 2, 8).answers('p', "state", 2).answers('m', "stateAt", 2, 7).does("pass", 1).answers('p', "state", 2);
     }
@@ -198,6 +200,10 @@ public final class StatesTest extends Check {
         page.does("report", 3, 1, 5).answers(3, "worst").does("report", 2, 2, 5).answers(2, "worst").does("report", 1, 1, 5).answers(1, "worst");
         page.does("correct", 0, 3, 5).answers(1, "worst").does("setWeight", 3, 2).answers(3, "worst").does("resolve", 0, 5).answers(1, "worst");
         page.does("setWeight", 1, 3).answers(2, "worst").does("maintain", 2, 5, 9).answers(2, "worst").does("withdraw", 1).answers(1, "worst");
+        // the loss counts, not the level
+        page = new Page("the greatest loss times weight").does("addComponent", -1, 3, 'w').does("addComponent", -1, 1, 'w').does("addComponent", -1, 5, 'w');
+        page.does("report", 0, 1, 0).does("report", 1, 3, 0).answers(1, "worst").does("report", 2, 1, 0).answers(2, "worst");
+        page.does("setWeight", 2, 4).answers(1, "worst").does("correct", 0, 2, 0).answers(0, "worst").does("setWeight", 0, 2).answers(0, "worst");
         // a group counts with none of its losses, nor with its weight
         page = new Page("Returns the leaf with the greatest loss times weight").does("addComponent", -1, 9, 'w').does("addComponent", 0, 1, 'w').does("addComponent", -1, 2, 'w');
         page.does("report", 1, 3, 0).answers(1, "worst").does("report", 2, 1, 0).answers(1, "worst").does("correct", 1, 3, 0).answers(2, "worst");

@@ -1,6 +1,8 @@
+import java.util.List;
+
 /** "Uptime", and promises 28 to 30, 47 and 48: uptime by months, excused shares, means. */
 public final class UptimeTest extends Check {
-    private static Page leaf(String words) {
+    private static Page leaf(String... words) {
         return new Page(words).does("addComponent", -1, 1, 'w');
     }
 
@@ -70,7 +72,7 @@ public final class UptimeTest extends Check {
     }
 
     private static void months() {
-        Page page = leaf("`month`: the month, 0 to 16");
+        Page page = leaf("`month`: the month, 0 to 16", "Throws `IllegalArgumentException` if the month is out of range");
         for (int month : new int[] {LEAST, LEAST + 1, -2, -1, 17, 18, MOST - 1, MOST}) {
             page.refuses(RANGE, "counted", 0, month).refuses(RANGE, "uptime", 0, month).refuses(RANGE, "uptimeByMinutes", 0, month).refuses(RANGE, "meanUptime", month);
         }
@@ -185,6 +187,27 @@ public final class UptimeTest extends Check {
         uptimes(page, 0, 0, (4 * 75 + 2 * 50 + 3 * 75) * 100 / 11);
     }
 
+    /** As many changes as there may be, with some at the edges of months, the last minute among them. */
+    private static void sameByMinutes() {
+        Page page = new Page("Uptime is found from the minutes at which something changes, and minute by minute.", "Returns the same as uptime, found minute by minute.");
+        page.does("addComponent", -1, 1, 's').does("addComponent", 0, 1, 'w').does("addComponent", 0, 2, 'w').does("addComponent", 0, 3, 'w');
+        for (int m = 0; m < 8; m++) {
+            page.does("maintain", m % 4, 300 * m + m % 2, 300 * m + 7 * m + 1);
+        }
+        later(page, 2400);
+        for (int i = 0; i < 20; i++) {
+            page.does("report", i % 3 + 1, i % 3 + 1, 100 * i + i % 7 / 6).does("resolve", i, 100 * i + 11 * i);
+        }
+        page.does("correct", 19, 3, 1799);
+        List<Call> calls = page.changes();
+        for (int month = 0; month < 4; month++) {
+            for (int c = 0; c < 4; c++) {
+                String due = new Call("uptime", c, month).on(Fingerprint.replay(Model.class, calls));
+                page.answers(due, "uptime", c, month).answers(due, "uptimeByMinutes", c, month);
+            }
+        }
+    }
+
     private static void shares() {
         Page page = leaf("their number divided by that of all past minutes, both converted to float.");
         page.does("addComponent", 0, 1, 'w').does("addComponent", -1, 1, 'w').does("maintain", 0, 0, 1).does("maintain", 1, 0, 7).does("maintain", 1, 3, 8);
@@ -258,6 +281,7 @@ public final class UptimeTest extends Check {
         wholeMonthExcused();
         excusedByItsEdges();
         ofAGroup();
+        sameByMinutes();
         shares();
         sharesOfAllTime();
         noPastMinutes();
