@@ -22,20 +22,6 @@ public final class UptimeTest extends Check {
         page.answers(0, "counted", component, month).refuses(STATE, "uptime", component, month).refuses(STATE, "uptimeByMinutes", component, month);
     }
 
-    private static void readme() {
-        Statusboard board = new Statusboard();
-        int site = board.addComponent(-1, 1, 'w');
-        int shop = board.addComponent(site, 3, 's');
-        int reader = board.addPerson(1);
-        board.subscribe(reader, site);
-        board.pass(10);
-        int incident = board.report(shop, 2, 4);
-        same("README's state", board.state(site), 'p');
-        same("README's mail", board.mailComponent(0), site);
-        board.resolve(incident, 9);
-        same("README's uptime", board.uptime(site, 0), 7500);
-    }
-
     private static void pastMinutes() {
         Page page = leaf("The past minutes are those from 0 up to the one ahead of the present one.");
         noUptime(page, 0, 0);
@@ -271,7 +257,6 @@ public final class UptimeTest extends Check {
     }
 
     public static void main(String[] args) {
-        readme();
         pastMinutes();
         lengthOfAMonth();
         months();
