@@ -161,7 +161,7 @@ public final class ComponentsTest extends Check {
     }
 
     private static void belowAt() {
-        Page page = tree("first the component itself, then, for each of its children in the order of their numbers, the child and all that are below it.");
+        Page page = tree("`index`: the index, from 0", "first the component itself, then, for each of its children in the order of their numbers, the child and all that are below it.");
         int[][] due = {{0, 1, 3, 5, 2, 4}, {1, 3, 5}, {2, 4}, {3}, {4}, {5}, {6}};
         for (int c = 0; c < 7; c++) {
             for (int i = 0; i < due[c].length; i++) {

@@ -47,6 +47,13 @@ public final class IncidentsTest extends Check {
         page.answers(1, "correct", 0, 3, 0).answers(3, "correct", 0, 1, 0).answers(3, "correct", 2, 1, 0).answers(1, "levelOf", 2);
     }
 
+    private static void whatAnIncidentHas() {
+        Page page = page("An incident belongs to a leaf and has a level from 1 to 3, a start, and an end if it is resolved.");
+        page.refuses(KIND, "report", 0, 1, 0).answers(0, "report", 1, 2, 7).answers(1, "report", 2, 1, 10).answers('p', "stateAt", 1, 7).answers('u', "stateAt", 2, 7);
+        page.answers(2, "levelOf", 0).answers(7, "startOf", 0).answers(-1, "endOf", 0).answers(1, "levelOf", 1).answers(10, "startOf", 1).answers(-1, "endOf", 1);
+        page.does("resolve", 0, 9).answers(2, "levelOf", 0).answers(7, "startOf", 0).answers(9, "endOf", 0).answers(-1, "endOf", 1);
+    }
+
     private static void startOfAReport() {
         Page page = page("`start`: the start, 0 to the present minute", "Throws `IllegalArgumentException` if the level or the start is out of range");
         page.refuses(RANGE, "report", 1, 1, -1).refuses(RANGE, "report", 1, 1, 11).refuses(RANGE, "report", 1, 1, 9999);
@@ -242,6 +249,7 @@ public final class IncidentsTest extends Check {
         atMostTwenty();
         endedOnesCount();
         levels();
+        whatAnIncidentHas();
         startOfAReport();
         startInTheMinuteZero();
         groups();

@@ -31,7 +31,8 @@ public final class MailsTest extends Check {
     }
 
     private static void fourCalls() {
-        Page page = page("When the states of components in the present minute are changed by a call of report, resolve, correct or withdraw");
+        Page page = page("When the states of components in the present minute are changed by a call of report, resolve, correct or withdraw",
+            "`mail`: the mail, from 0 in the order in which they were sent");
         person(page, 0, 1, 3);
         last(page.does("report", 3, 1, 10), 0, 0, 3, 'd', 10);
         last(page.does("pass", 1).does("correct", 0, 3, 10), 1, 0, 3, 'm', 11);
@@ -145,7 +146,7 @@ public final class MailsTest extends Check {
     }
 
     private static void leastLevels() {
-        Page page = page("for which the greater one of the levels before and behind the call is not less than the least level of the person");
+        Page page = page("and for which the greater one of the levels before and behind the call is not less than the least level of the person");
         int[][] due = {{0, 1, 1}, {1, 0, 1}, {0, 2, 2}, {2, 0, 2}, {0, 3, 3}, {3, 0, 3}, {1, 2, 2}, {2, 1, 2}, {1, 3, 3}, {3, 1, 3}, {2, 3, 3}, {3, 2, 3}};
         for (int p = 0; p < 3; p++) {
             person(page, p, p + 1, 5);
@@ -180,7 +181,7 @@ public final class MailsTest extends Check {
 
     /** The levels are those of the component, not those of the incident. */
     private static void levelsOfEach() {
-        Page page = new Page("for which the greater one of the levels").does("addComponent", -1, 1, 's').does("addComponent", 0, 1, 'w').does("addComponent", 0, 1, 'w').does("addComponent", 0, 1, 'w');
+        Page page = new Page("and for which the greater one of the levels").does("addComponent", -1, 1, 's').does("addComponent", 0, 1, 'w').does("addComponent", 0, 1, 'w').does("addComponent", 0, 1, 'w');
         person(page, 0, 3, 0, 1);
         person(page, 1, 1, 0, 1);
         page.does("report", 1, 3, 0).answers('d', "state", 0).answers(2, "mails");

@@ -37,7 +37,7 @@ public final class PeopleTest extends Check {
     }
 
     private static void subscribing() {
-        Page page = page("Returns the number of components to which the person has subscribed.");
+        Page page = page("and subscribes to components.", "Returns the number of components to which the person has subscribed.");
         page.does("addPerson", 1).does("addPerson", 2);
         for (int c = 0; c < 12; c++) {
             page.answers(c, "subscriptions", 1).answers(c + 1, "subscribe", 1, 11 - c).answers(0, "subscriptions", 0);
